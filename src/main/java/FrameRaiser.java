@@ -67,7 +67,7 @@ public final class FrameRaiser {
         if (text.fault != NO_FAULT) {
             return -10 - position;
         }
-        history.record(frame);
+        history.remember(frame);
         frame.copyFrom(trialFrame);
         forgetPieces();
         return frame.pieces;
@@ -79,7 +79,7 @@ public final class FrameRaiser {
 
     public int clear() {
         int had = frame.pieces;
-        history.record(frame);
+        history.remember(frame);
         frame.empty();
         forgetPieces();
         return had;
@@ -95,7 +95,7 @@ public final class FrameRaiser {
         if (frame.pieces >= MOST_PIECES) {
             return FULL;
         }
-        history.record(frame);
+        history.remember(frame);
         frame.addBox(box, frame.pieces);
         forgetPieces();
         return frame.pieces - 1;
@@ -111,7 +111,7 @@ public final class FrameRaiser {
         if (frame.boxes[piece] >= MOST_BOXES) {
             return FULL;
         }
-        history.record(frame);
+        history.remember(frame);
         frame.addBox(box, piece);
         forgetPieces();
         return knownMeasures().cells[piece];
@@ -121,7 +121,7 @@ public final class FrameRaiser {
         if (!isPiece(piece)) {
             return BAD;
         }
-        history.record(frame);
+        history.remember(frame);
         frame.remove(piece);
         forgetPieces();
         return frame.pieces;
@@ -132,7 +132,7 @@ public final class FrameRaiser {
         if (fault != FINE) {
             return fault;
         }
-        history.record(frame);
+        history.remember(frame);
         frame.move(piece, direction);
         forgetPieces();
         return 1;
@@ -277,7 +277,7 @@ public final class FrameRaiser {
     }
 
     public int putAll() {
-        history.record(frame);
+        history.remember(frame);
         int done = 0;
         for (int round = 0; round < MOST_PIECES; round++) {
             int next = nextToPut();
@@ -379,7 +379,7 @@ public final class FrameRaiser {
         if (has(frame.building, piece) != out || !known.isFree(piece, direction, frame.building)) {
             return STATE;
         }
-        history.record(frame);
+        history.remember(frame);
         frame.turn(piece);
         return known.propsOf(frame.building);
     }
@@ -953,7 +953,7 @@ public final class FrameRaiser {
             }
         }
 
-        void record(Frame frame) {
+        void remember(Frame frame) {
             states[(oldest + size) % MOST_STATES].copyFrom(frame);
             if (size < MOST_STATES) {
                 size++;

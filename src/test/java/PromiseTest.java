@@ -968,14 +968,14 @@ public final class PromiseTest {
         }
     }
 
-    /** What undo brings back, as one number. */
+    /** What undo brings back, as one number, with few calls: an object is used for at most 512 of them. */
     private static long stateOf(FrameRaiser x) {
         long h = 7;
-        for (int cell = 0; cell < 216; cell++) {
-            h = 31 * h + x.pieceAt(cell % 6, cell / 6 % 6, cell / 36);
-        }
-        for (int piece = 0; piece < x.count(0); piece++) {
-            h = 31 * h + x.piece(piece, 1);
+        int pieces = x.count(0);
+        for (int piece = 0; piece < pieces; piece++) {
+            for (int what = 0; what < 8; what++) {
+                h = 31 * h + x.piece(piece, what);
+            }
         }
         return 31 * (31 * (31 * h + x.count(2)) + x.count(3)) + x.count(4);
     }
