@@ -346,6 +346,35 @@ final class BuildingEdges {
             Edges.due(1, x.pieceAt(2, 0, 0), x);
             Edges.due(NONE, x.pieceAt(5, 5, 5), x);
         }
+        freshAnswers(BuildingEdges::pair);
+        freshAnswers(Edges::busy);
+        freshAnswers(Edges::crowd);
+        freshAnswers(Edges::chain);
+    }
+
+    /** Each call that changes pieces or the building, where much is known of them, and much of it becomes wrong. */
+    private static void freshAnswers(Edges.Scene scene) {
+        for (Edges.Call change : CHANGES) {
+            Edges.leavesNothingOld(scene, change);
+        }
+        for (int i = 0; i < 8; i++) {
+            int piece = i;
+            Edges.leavesNothingOld(scene, x -> x.drop(piece));
+            for (int k = 0; k < 6; k++) {
+                int direction = k;
+                Edges.leavesNothingOld(scene, x -> x.shift(piece, direction));
+                Edges.leavesNothingOld(scene, x -> x.ifShift(piece, direction));
+                Edges.leavesNothingOld(scene, x -> x.put(piece, direction));
+                Edges.leavesNothingOld(scene, x -> x.takeOut(piece, direction));
+            }
+        }
+        Edges.leavesNothingOld(scene, Told::undo);
+        Edges.Scene shifted = x -> {
+            scene.play(x);
+            x.shift(0, 4);
+            x.shift(1, 4);
+        };
+        Edges.leavesNothingOld(shifted, Told::undo);
     }
 
     private static void undo() {

@@ -15,14 +15,22 @@ public final class EdgeTest {
     private static final int PROMISES = 30;
 
     public static void main(String[] args) throws IOException {
-        TextEdges.run();
-        PieceEdges.run();
-        SetEdges.run();
-        BuildingEdges.run();
+        try {
+            runAll();
+        } catch (RuntimeException thrown) {
+            Edges.fail("a call threw " + thrown);
+        }
         int missing = missing(Files.readString(DOCUMENT));
         if (Edges.wrong() + missing != 0) {
             System.exit(1);
         }
+    }
+
+    private static void runAll() {
+        TextEdges.run();
+        PieceEdges.run();
+        SetEdges.run();
+        BuildingEdges.run();
     }
 
     private static int missing(String document) {

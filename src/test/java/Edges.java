@@ -119,6 +119,30 @@ final class Edges {
         }
     }
 
+    /** What is answered behind a call does not rest on what was asked before it. */
+    static void leavesNothingOld(Scene scene, Call call) {
+        Told plain = after(scene);
+        call.make(plain);
+        Told asked = after(scene);
+        lookShortly(asked);
+        call.make(asked);
+        String made = asked.latest();
+        List<Long> want = lookShortly(plain);
+        if (!lookShortly(asked).equals(want)) {
+            fail("behind " + made + " something is answered as before it");
+        }
+    }
+
+    private static List<Long> lookShortly(Told x) {
+        List<Long> seen = new ArrayList<>();
+        seen.add(x.digest());
+        int pieces = x.count(0);
+        for (int i = 0; i < pieces * pieces; i++) {
+            seen.add((long) x.contact(i / pieces, i % pieces));
+        }
+        return seen;
+    }
+
     private static void compare(Scene before, Call call, boolean withFault) {
         for (int undos = 0; undos <= 9; undos++) {
             List<Long> plain = lookBack(after(before), undos, withFault);
@@ -159,9 +183,9 @@ final class Edges {
         return seen;
     }
 
-    /** All that can be seen of an object: the digest tells everything but which cells a piece has. */
+    /** All that can be seen of an object: the digest tells everything but contacts, and which cells a piece has. */
     private static void look(Told x, List<Long> seen) {
-        seen.add(x.digest());
+        seen.addAll(lookShortly(x));
         for (int cell = 0; cell < 216; cell++) {
             seen.add((long) x.pieceAt(cell % 6, cell / 6 % 6, cell / 36));
         }

@@ -375,6 +375,10 @@ final class PieceEdges {
             }
             Edges.due(gone == 7 ? NONE : 6, x.pieceAt(5, 5, 5), x);
             Edges.due(BAD, x.piece(7, 0), x);
+            // A piece that comes behind it has nothing of the old one with its number.
+            Edges.due(7, x.addPiece(0, 5, 0, 1, 1, 1), x);
+            Edges.due(1, x.piece(7, 1), x);
+            Edges.due(1, x.piece(7, 0), x);
         }
     }
 
